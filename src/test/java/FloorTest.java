@@ -91,6 +91,7 @@ public final class FloorTest {
         x.base(3, 0);
         Check.dueThrow("pillar on the base that was set", IllegalStateException.class, () -> x.pillar(3, 0));
         Check.due("pillar on the old base", 2, x.pillar(0, 0));
+        Check.due("least of that pillar", -1, x.least(0, 0));
         Check.dueThrow("a fourth pillar", IllegalStateException.class, () -> x.pillar(1, 4));
         Check.dueThrow("a fourth pillar on a pillar", IllegalStateException.class, () -> x.pillar(2, 2));
         for (int[] s : off) {

@@ -117,6 +117,27 @@ public final class PlaceTest {
         x.base(1, 4);
         walk(x, 1);
         dueWord("below all three", x);
+        Tetherline lowest = new Tetherline(5, 4, 60);
+        lowest.pillar(2, 3);
+        lowest.base(2, 2);
+        walk(lowest, 1);
+        dueWord("above the lowest row to the right", lowest, 0);
+        walk(lowest, 3);
+        dueWord("and back to the left", lowest);
+        lowest.base(3, 2);
+        walk(lowest, 3);
+        dueWord("above the lowest row to the left", lowest, 1);
+        Tetherline highest = new Tetherline(5, 7, 60);
+        highest.pillar(3, 0);
+        highest.base(2, 6);
+        walk(highest, 1, 3);
+        dueWord("below the uppermost row", highest);
+        highest.base(3, 3);
+        walk(highest, 3);
+        dueWord("below the uppermost row to the left", highest);
+        highest.base(2, 3);
+        walk(highest, 1);
+        dueWord("below the uppermost row to the right", highest);
     }
 
     private static void lettersGoWithTheLastOneAlone() {
@@ -319,5 +340,10 @@ public final class PlaceTest {
         Tetherline free = new Tetherline(5, 5, 60);
         walk(free, 1, 2, 1, 2, 1, 2);
         Check.due("bends() of the cable, not of the walk", 1, free.bends());
+        free.base(0, 0);
+        walk(free, 1, 2);
+        Check.due("bends() between the only two steps", 1, free.bends());
+        walk(free, 2, 2);
+        Check.due("bends() just before the base", 1, free.bends());
     }
 }
