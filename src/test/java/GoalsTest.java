@@ -79,15 +79,17 @@ public final class GoalsTest {
         Check.due("words() of the pillar", 0, x.words(1, 1));
     }
 
-    /** All words of 3 letters at most, without a letter behind its opposite: 1 + 6 + 30 + 150. */
+    /**
+     * All words of 3 letters at most, without a letter behind its opposite: 1 + 6 + 30 + 150. A round about one pillar
+     * alone, by the lowest row and back to the base, takes 20 steps at most, so three of them are within the limit.
+     */
     private static void wordsOfThreePillars() {
         Tetherline x = new Tetherline(7, 3, 60);
         x.pillar(1, 1);
         x.pillar(3, 1);
         Check.due("words() of two pillars", 1 + 4 + 12 + 36, x.words(0, 0));
         x.pillar(5, 1);
-        int words = x.words(0, 0);
-        Check.due("words() of three pillars are at most 187", 1, words > 53 && words <= 187 ? 1 : 0);
+        Check.due("words() of three pillars", 1 + 6 + 30 + 150, x.words(0, 0));
         Check.due("words() of a pillar", 0, x.words(3, 1));
     }
 
@@ -107,17 +109,15 @@ public final class GoalsTest {
     }
 
     private static void squaresOfTheLimit() {
-        int[][] due = {{1, 3}, {2, 6}, {3, 10}, {4, 15}, {5, 20}, {6, 26}, {7, 32}, {11, 46}, {12, 47}, {60, 47}};
+        // Neither pillar makes a way longer: it is the squares so many lines away, less the pillars.
+        int[][] due = {{1, 3}, {2, 6}, {3, 10}, {4, 15}, {5, 20}, {6, 27}, {10, 45}, {11, 46}, {12, 47}, {60, 47}};
         for (int[] limit : due) {
             Tetherline x = new Tetherline(7, 7, limit[0]);
-            int wider = limit[0] >= 12 ? 1 : 0;
             x.pillar(1, 4);
             x.pillar(6, 5);
-            int squares = x.squares();
+            Check.due("squares() at limit " + limit[0], limit[1], x.squares());
             x.step(2);
-            Check.due("squares() wherever the crawler is, at limit " + limit[0], squares, x.squares());
-            Check.due("squares() at limit " + limit[0], countLeast(x, limit[0]), squares);
-            Check.due("all squares at limit " + limit[0], wider, squares == 47 ? 1 : 0);
+            Check.due("squares() wherever the crawler is, at limit " + limit[0], limit[1], x.squares());
         }
         Tetherline small = new Tetherline(3, 3, 1);
         Check.due("squares() at limit 1", 3, small.squares());
@@ -127,19 +127,6 @@ public final class GoalsTest {
         Check.due("squares() at limit 2", 6, two.squares());
         two.pillar(1, 0);
         Check.due("squares() at limit 2 beside a pillar", 4, two.squares());
-    }
-
-    private static int countLeast(Tetherline x, int limit) {
-        int count = 0;
-        for (int column = 0; column < 7; column++) {
-            for (int row = 0; row < 7; row++) {
-                int least = x.least(column, row);
-                if (least != Tetherline.NONE && least <= limit) {
-                    count++;
-                }
-            }
-        }
-        return count;
     }
 
     private static void squaresBehindAWall() {
