@@ -149,6 +149,12 @@ final class Model {
         return lengths.get(place);
     }
 
+    /** The length of the place to which a step would lead, whatever the limit; -1 if it cannot be made in a walk. */
+    int lengthBehind(int direction) {
+        Place next = after(place, direction);
+        return next == null ? -1 : lengths.get(next);
+    }
+
     int slack() {
         return limit - length();
     }

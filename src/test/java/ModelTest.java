@@ -1,10 +1,13 @@
 import java.util.Random;
 
-/** Long runs of drawn calls, each answered by Tetherline and by Model; every answer and exception is compared. */
+/**
+ * Runs of drawn calls, each answered by Tetherline and by Model; every answer and exception is compared. A run ends
+ * with its 512th call, as nothing is promised of later ones.
+ */
 public final class ModelTest {
 
-    private static final int RUNS = 150;
-    private static final int CALLS = 120;
+    private static final int RUNS = 600;
+    private static final int CALLS = 512;
     private static final int[] ODD = {Integer.MIN_VALUE, Integer.MIN_VALUE + 1, -2, -1, 0, 1, 2, 3, 4, 6, 7, 8, 9, 59,
         60, 61, Integer.MAX_VALUE - 1, Integer.MAX_VALUE};
 
@@ -12,6 +15,8 @@ public final class ModelTest {
     private final String name;
     private final Tetherline x;
     private final Model model;
+    private final int restless;
+    private int calls = 0;
 
     private ModelTest(int seed) {
         random = new Random(seed);
@@ -21,6 +26,7 @@ public final class ModelTest {
         name = "run " + seed + " of new Tetherline(" + columns + ", " + rows + ", " + limit + "): ";
         x = new Tetherline(columns, rows, limit);
         model = new Model(columns, rows, limit);
+        restless = random.nextInt(12);
     }
 
     public static void main(String[] args) {
@@ -38,32 +44,45 @@ public final class ModelTest {
         if (random.nextBoolean()) {
             setBase();
         }
-        for (int i = 0; i < CALLS; i++) {
+        while (calls < CALLS) {
             change();
-            askForThePlace();
-            if (i % 8 == 0) {
+            int kind = random.nextInt(24);
+            if (kind < 8) {
+                askForTheWay();
+            } else if (kind < 10) {
+                askForThePlace();
+            } else if (kind < 12) {
                 askForGoals();
             }
         }
     }
 
     private void change() {
-        int kind = random.nextInt(60);
+        int kind = random.nextInt(150);
         if (kind < 1) {
             setBase();
-        } else if (kind < 3) {
+        } else if (kind < 2) {
             setPillar();
-        } else if (kind < 6) {
+        } else if (kind < 4) {
             int steps = random.nextInt(3) == 0 ? odd() : 1 + random.nextInt(12);
             compare("back(" + steps + ")", () -> model.back(steps), () -> x.back(steps));
-        } else if (kind < 9) {
+        } else if (kind < 6) {
             int column = column();
             int row = row();
             compare("go(" + column + ", " + row + ")", () -> model.go(column, row), () -> x.go(column, row));
         } else {
-            int direction = random.nextInt(30) == 0 ? odd() : random.nextInt(4);
+            int direction = random.nextInt(30) == 0 ? odd() : direction();
             compare("step(" + direction + ")", () -> model.step(direction), () -> x.step(direction));
         }
+    }
+
+    /** Mostly one that leads away from the base, as steps drawn evenly seldom wind the cable far. */
+    private int direction() {
+        int direction = random.nextInt(4);
+        for (int tried = 0; tried < restless && model.lengthBehind(direction) <= model.length(); tried++) {
+            direction = random.nextInt(4);
+        }
+        return direction;
     }
 
     private void setPillar() {
@@ -84,13 +103,16 @@ public final class ModelTest {
         });
     }
 
-    private void askForThePlace() {
+    private void askForTheWay() {
         compare("column()", model::column, x::column);
         compare("row()", model::row, x::row);
         compare("letters()", model::letters, x::letters);
+        compare("steps()", model::steps, x::steps);
+    }
+
+    private void askForThePlace() {
         compare("length()", model::length, x::length);
         compare("slack()", model::slack, x::slack);
-        compare("steps()", model::steps, x::steps);
         compare("bends()", model::bends, x::bends);
         for (int i = 0; i <= 3; i++) {
             int index = i;
@@ -99,8 +121,10 @@ public final class ModelTest {
         int odd = odd();
         compare("letterAt(" + odd + ")", () -> model.letterAt(odd), () -> x.letterAt(odd));
         compare("cableAt(" + odd + ")", () -> model.cableAt(odd), () -> x.cableAt(odd));
-        int index = random.nextInt(model.length() + 2);
-        compare("cableAt(" + index + ")", () -> model.cableAt(index), () -> x.cableAt(index));
+        for (int i = 0; i < 4; i++) {
+            int index = random.nextInt(model.length() + 2);
+            compare("cableAt(" + index + ")", () -> model.cableAt(index), () -> x.cableAt(index));
+        }
         int most = random.nextInt(5) == 0 ? odd() : random.nextInt(9);
         compare("lengthByTrying(" + most + ")", () -> model.lengthByTrying(most), () -> x.lengthByTrying(most));
     }
@@ -116,6 +140,10 @@ public final class ModelTest {
     }
 
     private void compare(String call, Check.Call want, Check.Call got) {
+        if (calls >= CALLS) {
+            return;
+        }
+        calls++;
         Check.dueText(name + call, answer(want), answer(got));
     }
 
