@@ -556,6 +556,12 @@ public final class BoundsTest {
                 }
             }
         }
+        Tetherline away = new Tetherline(7, 7, 5);
+        walk(away, 1, 1, 1, 2, 2);
+        Check.due("slack() away", 0, away.slack());
+        Check.due("missing() at the limit, from away", 0, away.missing(0, 5));
+        Check.due("missing() above the limit, from away", 1, away.missing(3, 3));
+        Check.due("missing() where the crawler is", 0, away.missing(3, 2));
         Tetherline x = new Tetherline(3, 3, 60);
         x.pillar(1, 2);
         Check.due("missing() of a pillar", -1, x.missing(1, 2));

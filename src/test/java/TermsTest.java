@@ -34,6 +34,7 @@ public final class TermsTest {
         longestLimitJustReached();
         cableIsAsLongAsTheLength();
         lowestDirectionsOfTheCable();
+        questionsChangeNothing();
         used512Times();
         Check.end("TermsTest");
     }
@@ -588,6 +589,25 @@ public final class TermsTest {
         Check.due("cableAt(1): " + which, due, x.cableAt(1));
         x.back(1);
         dueSquare("back(1): " + which, x, due / 10, due % 10);
+    }
+
+    // ---- "questions are asked, which change nothing"
+
+    private static void questionsChangeNothing() {
+        Tetherline asked = ladder(1, 3, 5);
+        Tetherline twin = ladder(1, 3, 5);
+        for (Tetherline x : new Tetherline[] {asked, twin}) {
+            crossRight(x, 2);
+            crossLeft(x, 0);
+        }
+        String first = State.of(asked);
+        Check.dueText("all answers asked again", first, State.of(asked));
+        for (Tetherline x : new Tetherline[] {asked, twin}) {
+            Check.due("go behind all questions", 2, x.go(2, 0));
+            Check.due("steps() behind all questions", 10, x.steps());
+            Check.due("back behind all questions", x.length(), x.back(60));
+        }
+        Check.dueText("all answers at the base", State.of(twin), State.of(asked));
     }
 
     // ---- "An object is used for at most 512 calls"
